@@ -11,6 +11,7 @@ public final class GraphCatalogue {
     private static final int MOST_COUPLES = 10;
     private static final int MOST_GRAPHS = 1024;
     private static final int MOST_RENAMINGS = 120;
+    private static final int TABLE_LENGTH = MOST_RENAMINGS * MOST_COUPLES;
 
     private final int pointCount;
     private final int coupleCount;
@@ -21,7 +22,7 @@ public final class GraphCatalogue {
     /** The new number of each point, for the renaming that is being tabled. */
     private final int[] newName = new int[MOST_POINTS];
     /** The new number of couple c under renaming r stands at r * MOST_COUPLES + c. */
-    private final int[] newCouple = new int[MOST_RENAMINGS * MOST_COUPLES];
+    private final int[] newCouple = new int[TABLE_LENGTH];
     /** The leader of each graph's class; BAD while the graph's class is not yet found. */
     private final int[] leaderOf = new int[MOST_GRAPHS];
     /** How many graphs a class has, at its leader's place. */
