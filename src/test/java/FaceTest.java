@@ -19,6 +19,8 @@ public final class FaceTest {
     public static void main(String[] args) throws Exception {
         Class<?> face = GraphCatalogue.class;
         same("the class", Modifier.toString(face.getModifiers()), "public final");
+        same("the class above", face.getSuperclass(), Object.class);
+        same("interfaces", face.getInterfaces().length, 0);
         same("nested classes", face.getDeclaredClasses().length, 0);
 
         Set<String> shown = new TreeSet<>();
